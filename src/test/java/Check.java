@@ -1,0 +1,32 @@
+/** Counts and prints the answers that are not as due. */
+final class Check {
+    private static int wrong = 0;
+
+    private Check() {
+    }
+
+    static void due(String call, long got, long want) {
+        if (got != want) {
+            wrong++;
+            System.out.println(call + " answered " + got + ", due is " + want);
+        }
+    }
+
+    static void due(String call, boolean got, boolean want) {
+        due(call, got ? 1 : 0, want ? 1 : 0);
+    }
+
+    /** Several count() at once: whats and wants by turns. */
+    static void counts(String when, BeatHeap x, int... whatAndWant) {
+        for (int i = 0; i + 1 < whatAndWant.length; i += 2) {
+            due(when + ": count(" + whatAndWant[i] + ")", x.count(whatAndWant[i]), whatAndWant[i + 1]);
+        }
+    }
+
+    static void end() {
+        if (wrong != 0) {
+            System.out.println(wrong + " answers are not as due");
+            System.exit(1);
+        }
+    }
+}
