@@ -512,13 +512,13 @@ public final class BeatHeap {
             return blockWords(classOf(address / PAGE_WORDS));
         }
 
-        void release(int address) {
+        /** New blocks are empty because free ones are. */
+        void release(int address, int size) {
             if (!isInside(address) || kindOf(address) == VACANT) {
                 return;
             }
-            int end = address + wordsOfBlock(address);
-            for (int i = address; i < end; i++) {
-                setWord(i, 0);
+            for (int i = 0; i < size; i++) {
+                setWord(address + i, 0);
             }
             kinds[address / SLOT_WORDS] = VACANT;
             held[address / PAGE_WORDS]--;
@@ -594,7 +594,9 @@ public final class BeatHeap {
             }
             latest[next] = (byte) whose;
             next++;
-            kept = Math.min(kept + 1, LATEST_TICKS);
+            if (kept < LATEST_TICKS) {
+                kept++;
+            }
         }
 
         /** Of the ticks that are kept, the oldest is 0. */
@@ -603,6 +605,7 @@ public final class BeatHeap {
         }
 
         int fewestPrograms(int window) {
+            // No more ticks are kept than a window may have.
             if (!within(window, 1, kept)) {
                 return NONE;
             }
@@ -755,11 +758,12 @@ public final class BeatHeap {
         private void sweepStep() {
             int block = blocks.blockFrom(place);
             if (block != NONE) {
-                place = block + blocks.wordsOfBlock(block);
+                int size = blocks.wordsOfBlock(block);
+                place = block + size;
                 if (blocks.isMarked(block)) {
                     blocks.setMark(block, false);
                 } else {
-                    blocks.release(block);
+                    blocks.release(block, size);
                 }
                 if (place % PAGE_WORDS == 0) {
                     blocks.closeIfEmpty(block / PAGE_WORDS);

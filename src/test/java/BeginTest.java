@@ -84,6 +84,7 @@ public final class BeginTest {
         }
         Check.due("begin() again: share(1)", x.share(1), -1);
         x.make(0, 0, 3);
+        Check.due("begin() again: root(0, 0)", x.root(0, 0), 0);
         Check.due("begin() again: root(0, 3)", x.root(0, 3), 0);
         x.start();
         Check.counts("begin() again, start()", x, 5, 6);

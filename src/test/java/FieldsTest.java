@@ -10,6 +10,7 @@ public final class FieldsTest {
         links();
         wrongLinks();
         linkGreysTheOld();
+        linkGreysTheOldInMark();
         follows();
         wrongFollows();
         followGreysTheOld();
@@ -110,6 +111,21 @@ public final class FieldsTest {
         Check.counts("the old is marked", x, 8, 1);
         x.link(0, 0, -1);
         Check.counts("the old is the owner", x, 8, 2);
+    }
+
+    private static void linkGreysTheOldInMark() {
+        BeatHeap x = new BeatHeap();
+        x.begin(8, 1, 1, 0);
+        x.make(0, 1, 0);
+        x.make(1, 0, 1);
+        x.link(0, 0, 1);
+        x.drop(1);
+        x.start();
+        x.idle(16);
+        Check.counts("MARK begins", x, 3, 2, 8, 1, 11, -1);
+        x.link(0, 0, -1);
+        Check.counts("the old came on top, so it is at hand", x, 3, 2, 8, 1, 11, 4);
+        Check.due("both are marked", x.page(0, 2), 2);
     }
 
     private static void follows() {

@@ -6,6 +6,7 @@ public final class MakeTest {
         leastAddress();
         noBlock();
         rootIsGreyedAndNewIsMarked();
+        sameInMark();
         newIsEmpty();
         Check.end();
     }
@@ -93,6 +94,21 @@ public final class MakeTest {
         Check.counts("in ROOTS", x, 8, 1);
         x.make(0, 0, 1);
         Check.counts("in ROOTS, a marked one lost", x, 8, 1, 5, 16);
+    }
+
+    private static void sameInMark() {
+        BeatHeap x = new BeatHeap();
+        x.begin(8, 2, 2, 0);
+        x.make(0, 1, 0);
+        x.make(1, 0, 1);
+        x.link(0, 0, 1);
+        x.drop(1);
+        x.start();
+        x.idle(16);
+        Check.counts("MARK begins", x, 3, 2, 8, 1, 11, -1);
+        x.make(2, 0, 1);
+        Check.due("in MARK: root(2, 3)", x.root(2, 3), 1);
+        Check.counts("in MARK: a new one is not on the pile", x, 3, 2, 8, 1, 11, 0);
     }
 
     private static void newIsEmpty() {
