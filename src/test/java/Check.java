@@ -1,14 +1,27 @@
 /** Counts and prints the answers that are not as due. */
 final class Check {
     private static int wrong = 0;
+    private static String sentence = "";
 
     private Check() {
+    }
+
+    /** The sentence of the document that the calls from here on are held against. */
+    static void sentence(String text) {
+        sentence = "[" + text + "] ";
+    }
+
+    static BeatHeap heap(int pages, int program, int collector, int trigger) {
+        BeatHeap x = new BeatHeap();
+        due("begin(" + pages + ", " + program + ", " + collector + ", " + trigger + ")",
+                x.begin(pages, program, collector, trigger), true);
+        return x;
     }
 
     static void due(String call, long got, long want) {
         if (got != want) {
             wrong++;
-            System.out.println(call + " answered " + got + ", due is " + want);
+            System.out.println(sentence + call + " answered " + got + ", due is " + want);
         }
     }
 
