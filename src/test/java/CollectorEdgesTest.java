@@ -20,6 +20,7 @@ public final class CollectorEdgesTest {
         sweepLooksAtFreeBlocks();
         markedIsSoNoMore();
         unmarkedIsFree();
+        neighboursStay();
         emptyPageIsFree();
         pageWithOneLeftIsNot();
         pageTakenIntoIsNot();
@@ -130,7 +131,7 @@ public final class CollectorEdgesTest {
     }
 
     private static void handWithoutPointers() {
-        Check.sentence("if something is AT HAND that has pointers left (of a spine: leaves): a step looks at the next one");
+        Check.sentence("Else the top of the pile is at hand (it is on the pile no more)");
         BeatHeap x = stepByStep(8);
         x.make(0, 0, 31);
         x.make(1, 0, 31);
@@ -369,6 +370,29 @@ public final class CollectorEdgesTest {
         Check.due("the leaf is free", x.word(64), 0);
         x.idle(1);
         Check.counts("all are free", x, 3, 0, 6, 8, 7, 0, 9, 4);
+    }
+
+    private static void neighboursStay() {
+        Check.sentence("one that holds something and was not marked is free");
+        BeatHeap x = Check.heap(8, 1, 200, 0);
+        x.make(0, 0, 31);
+        x.array(1, 64);
+        x.make(0, 0, 31);
+        // Page 0 has the lost object and leaf 0, page 2 leaf 1 and the other object; page 1 has the spine.
+        Check.due("leaf 0", x.word(65), 33);
+        Check.due("leaf 1", x.word(66), 129);
+        Check.due("root(0, 0)", x.root(0, 0), 160);
+        for (int i : new int[] {0, 31, 32, 63}) {
+            x.put(1, i, 500 + i);
+        }
+        x.drop(0);
+        x.start();
+        x.idle(1);
+        Check.counts("both objects are free", x, 3, 0, 7, 3, 9, 2);
+        for (int i : new int[] {0, 31, 32, 63}) {
+            Check.due("get(1, " + i + ")", x.get(1, i), 500 + i);
+        }
+        Check.due("the spine", x.word(66), 129);
     }
 
     private static void emptyPageIsFree() {

@@ -10,6 +10,7 @@ public final class DoingEdgesTest {
         beginAllAsAtFirst();
         beginLeastAndMost();
         beginRefused();
+        beginRefusedForOne();
         makeNoBlock();
         makeNoBlockInEachPart();
         makeRefused();
@@ -94,14 +95,17 @@ public final class DoingEdgesTest {
     private static void beginAllAsAtFirst() {
         Check.sentence("All is as at first: so many pages, the program's quantum and the collector's (1 .. 200 each), "
                 + "the trigger (0 .. pages).");
-        for (int steps = 0; steps <= 40; steps += 4) {
+        for (int steps = 0; steps <= 60; steps += 5) {
             BeatHeap x = Check.heap(4, 1, 1, 0);
+            x.make(0, 0, 3);
             x.make(0, 3, 0);
             x.array(1, 64);
             x.put(1, 63, -1);
             x.link(0, 0, 1);
             x.start();
             x.idle(1 + steps);
+            // 16 roots, 7 steps of MARK, SWEEP begins; the first of 18 blocks is the lost object.
+            Check.counts(steps + " steps", x, 4, steps < 41 ? 0 : 1, 9, steps < 24 ? 0 : 1);
             x.begin(5, 3, 2, 0);
             Check.due("begin() behind " + steps + " steps", all(x).equals(all(Check.heap(5, 3, 2, 0))), true);
             Check.due("share(1)", x.share(1), -1);
@@ -162,13 +166,27 @@ public final class DoingEdgesTest {
         Check.counts("the quanta are the same", x, 2, 3, 5, 6);
         x.idle(6);
         Check.counts("the quanta are the same", x, 2, 6, 5, 7);
-        x = Check.heap(4, 7, 3, 1);
-        x.begin(4, 7, 3, 5);
-        x.make(0, 0, 3);
-        x.make(0, 0, 7);
-        Check.counts("the trigger is the same", x, 6, 2, 3, 0);
-        x.make(0, 0, 15);
-        Check.counts("the trigger is the same", x, 6, 1, 3, 1);
+    }
+
+    /** One wrong value among others that are new and good: none of them may stay. */
+    private static void beginRefusedForOne() {
+        Check.sentence("False, and nothing changes, when one is not such.");
+        int[][] bad = {{3, 9, 5, 3}, {65, 9, 5, 3}, {8, 0, 5, 3}, {8, 201, 5, 3}, {8, 9, 0, 3}, {8, 9, 201, 3}, {8, 9, 5, -1},
+            {8, 9, 5, 9}};
+        for (int[] a : bad) {
+            BeatHeap x = Check.heap(4, 7, 3, 1);
+            String call = "begin " + Arrays.toString(a);
+            Check.due(call, x.begin(a[0], a[1], a[2], a[3]), false);
+            Check.counts(call, x, 6, 4);
+            Check.due(call + ": word(256)", x.word(256), -1);
+            x.make(0, 0, 3);
+            x.make(0, 0, 7);
+            Check.counts(call + ", two pages are FREE", x, 6, 2, 3, 0);
+            x.make(0, 0, 15);
+            Check.counts(call + ", as many as the trigger", x, 6, 1, 3, 1, 5, 7);
+            x.idle(7);
+            Check.counts(call + ", a round", x, 2, 3, 5, 7);
+        }
     }
 
     private static void makeNoBlock() {
@@ -240,6 +258,11 @@ public final class DoingEdgesTest {
         Check.due("whole()", x.whole(), true);
         Check.due("reachable()", x.reachable(), 3);
         Check.due("ticks of the program behind the collector's: share(9)", x.share(9), 0);
+        x = Check.heap(8, 9, 17, 7);
+        x.array(0, 96);
+        // Behind leaf 0: 16 roots, the spine at hand; behind leaf 1: three looks, the last at nothing, SWEEP and 13
+        // blocks; behind leaf 2: three blocks, and two of each of its pages.
+        Check.counts("looked at before it is all there", x, 1, 29, 2, 17 + 17 + 7, 3, 1, 4, 1, 5, 9);
     }
 
     private static void arrayJustFits() {
@@ -570,8 +593,11 @@ public final class DoingEdgesTest {
             Check.due(steps + " steps: start()", x.start(), steps == 20);
             Check.due(steps + " steps: nothing changed", all(x).equals(before), steps != 20);
         }
-        BeatHeap x = Check.heap(4, 1, 1, 4);
+        BeatHeap x = Check.heap(4, 5, 1, 4);
         x.idle(1);
         Check.due("begun by the trigger: start()", x.start(), false);
+        x.idle(3);
+        Check.due("credit 2: start()", x.start(), false);
+        Check.counts("the credit stays", x, 0, 4, 3, 1, 5, 2);
     }
 }

@@ -10,8 +10,10 @@ public final class LookEdgesTest {
         wordOfWhatIsFree();
         wordRefused();
         pageOfEach();
+        lastPageFull();
         pageRefused();
         countsOfNothing();
+        countsInAll();
         countRefused();
         handAndNextInEachPart();
         shareOfTooFew();
@@ -149,6 +151,26 @@ public final class LookEdgesTest {
         }
     }
 
+    private static void lastPageFull() {
+        Check.sentence("what = 0 its class (NONE: FREE), 1 blocks that hold something, 2 of these marked");
+        BeatHeap x = Check.heap(64, 200, 1, 0);
+        for (int n = 0; n < 126; n++) {
+            x.make(0, 0, 31);
+        }
+        x.start();
+        for (int n = 1; n <= 16; n++) {
+            x.make(0, 0, 3);
+            Check.due("page(63, 1)", x.page(63, 1), n);
+            Check.due("page(63, 2)", x.page(63, 2), n);
+        }
+        Check.due("page(63, 0)", x.page(63, 0), 0);
+        Check.due("page(62, 0)", x.page(62, 0), 3);
+        Check.due("page(62, 1)", x.page(62, 1), 2);
+        // Of page 62 the one that root 0 lost in ROOTS is greyed.
+        Check.due("page(62, 2)", x.page(62, 2), 1);
+        Check.due("page(61, 2)", x.page(61, 2), 0);
+    }
+
     private static void pageRefused() {
         Check.sentence("NONE, too: none such.");
         for (int pages : new int[] {4, 64}) {
@@ -174,6 +196,33 @@ public final class LookEdgesTest {
         Check.counts("a cycle", x, 3, 1, 5, 30);
         x.idle(30);
         Check.counts("at rest again", x, 0, 47, 1, 30, 2, 17, 3, 0, 4, 1, 5, 0, 8, 0, 11, -1, 12, -1);
+    }
+
+    private static void countsInAll() {
+        Check.sentence("9 blocks freed in all, 10 times that a block was not to be had");
+        BeatHeap x = Check.heap(4, 1, 200, 0);
+        for (int cycle = 1; cycle <= 3; cycle++) {
+            x.make(0, 0, 3);
+            x.make(1, 0, 7);
+            x.drop(0);
+            x.drop(1);
+            x.start();
+            x.idle(1);
+            Check.counts("cycle " + cycle, x, 4, cycle, 7, 0, 9, 2 * cycle, 10, 0);
+        }
+        x.begin(4, 200, 1, 0);
+        for (int n = 0; n < 8; n++) {
+            x.make(n, 0, 31);
+        }
+        for (int times = 1; times <= 3; times++) {
+            x.make(0, 0, 1);
+            Check.counts("full", x, 9, 0, 10, 2 * times - 1);
+            x.array(0, 512);
+            Check.counts("full", x, 9, 0, 10, 2 * times);
+            x.make(0, 0, 0);
+            x.array(0, 31);
+            Check.counts("a refused call is no time", x, 10, 2 * times);
+        }
     }
 
     private static void countRefused() {
