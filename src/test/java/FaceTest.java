@@ -17,35 +17,48 @@ public final class FaceTest {
                 "int NONE"));
         want.add("new()");
         Set<String> got = new TreeSet<>();
-        Set<String> hidden = new TreeSet<>();
         Set<String> faceNames = new TreeSet<>();
         for (Method m : BeatHeap.class.getDeclaredMethods()) {
-            if (Modifier.isPrivate(m.getModifiers())) {
-                hidden.add(m.getName());
-            } else {
+            if (!Modifier.isPrivate(m.getModifiers())) {
                 got.add(m.getReturnType() + " " + m.getName() + types(m.getParameterTypes()));
                 faceNames.add(m.getName());
+                Check.due(m.getName() + "() is public, of the object", m.getModifiers(), Modifier.PUBLIC);
             }
         }
         for (Field f : BeatHeap.class.getDeclaredFields()) {
             if (!Modifier.isPrivate(f.getModifiers())) {
                 got.add(f.getType() + " " + f.getName());
+                Check.due(f.getName() + " is a public constant", f.getModifiers(),
+                        Modifier.PUBLIC | Modifier.STATIC | Modifier.FINAL);
             }
         }
         for (Constructor<?> c : BeatHeap.class.getDeclaredConstructors()) {
             if (!Modifier.isPrivate(c.getModifiers())) {
                 got.add("new" + types(c.getParameterTypes()));
+                Check.due("the constructor is public", c.getModifiers(), Modifier.PUBLIC);
             }
         }
         if (!got.equals(want)) {
             System.out.println("the face is " + got + ", due is " + want);
             Check.due("the face as the document's", false, true);
         }
-        hidden.retainAll(faceNames);
-        Check.due("private methods with a public one's name " + hidden, hidden.size(), 0);
+        hiddenNames(BeatHeap.class, faceNames);
+        for (Class<?> inside : BeatHeap.class.getDeclaredClasses()) {
+            hiddenNames(inside, faceNames);
+            int seen = inside.getModifiers() & (Modifier.PUBLIC | Modifier.PROTECTED | Modifier.STATIC);
+            Check.due(inside.getName() + " is static, and hidden", seen, Modifier.STATIC);
+        }
+        Check.due("public class", Modifier.isPublic(BeatHeap.class.getModifiers()), true);
         Check.due("final class", Modifier.isFinal(BeatHeap.class.getModifiers()), true);
         Check.due("NONE", BeatHeap.NONE, -1);
         Check.end();
+    }
+
+    private static void hiddenNames(Class<?> holder, Set<String> faceNames) {
+        for (Method m : holder.getDeclaredMethods()) {
+            boolean both = Modifier.isPrivate(m.getModifiers()) && faceNames.contains(m.getName());
+            Check.due("the private " + m.getName() + "() has a public one's name", both, false);
+        }
     }
 
     private static String types(Class<?>[] types) {
